@@ -1,0 +1,32 @@
+/** Promise 8: get. */
+public final class GetTest {
+    public static void main(String[] args) {
+        getsWhatThatGlobalHolds();
+        emptiesTheRegisterForAnEmptyGlobal();
+        Due.wrongArguments("get", "trf", (heap, a) -> heap.get(a[0], a[1], a[2]), ThreadHeap.BAD_ARG);
+        Due.end();
+    }
+
+    private static void getsWhatThatGlobalHolds() {
+        ThreadHeap heap = Due.fullHeap();
+        heap.put(0, 0, 1);
+        heap.put(0, 1, 3);
+        Due.answer("get(1, 2, 0)", heap.get(1, 2, 0), 0);
+        Due.answer("serial(1, 2)", heap.serial(1, 2), 2);
+        Due.answer("get(2, 3, 1)", heap.get(2, 3, 1), 0);
+        Due.answer("serial(2, 3)", heap.serial(2, 3), 4);
+        Due.answer("get(0, 0, 1)", heap.get(0, 0, 1), 0);
+        Due.answer("serial(0, 0)", heap.serial(0, 0), 4);
+        heap.setNumber(1, 2, 22);
+        Due.answer("number of the very object", heap.number(0, 1), 22);
+        Due.answer("the global still holds", heap.serialOf(0), 2);
+        Due.answer("live", heap.live(), 3);
+    }
+
+    private static void emptiesTheRegisterForAnEmptyGlobal() {
+        ThreadHeap heap = Due.busyHeap();
+        Due.answer("get(0, 1, 1)", heap.get(0, 1, 1), 0);
+        Due.answer("serial(0, 1)", heap.serial(0, 1), 0);
+        Due.answer("serial(0, 0)", heap.serial(0, 0), 1);
+    }
+}

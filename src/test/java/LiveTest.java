@@ -7,7 +7,7 @@ public final class LiveTest {
         countsALongChain();
         countsATree();
         losesARing();
-        comesBackByNoCall();
+        staysTheSameWhenAskedAgain();
         Due.end();
     }
 
@@ -69,12 +69,12 @@ public final class LiveTest {
     private static void countsATree() {
         ThreadHeap heap = new ThreadHeap(16);
         for (int i = 0; i < 4; i++) {
-            makePair(heap, 0);
+            makeBranch(heap, 0);
             heap.swap(0, 0, 1, i);
         }
-        Due.answer("live of four pairs", heap.live(), 12);
+        Due.answer("live of four branches", heap.live(), 12);
         heap.make(1, 0, 0);
-        Due.answer("live with one pair lost", heap.live(), 10);
+        Due.answer("live with one branch lost", heap.live(), 10);
         heap.store(1, 0, 0, 1);
         heap.store(1, 0, 1, 2);
         heap.drop(1, 1);
@@ -82,10 +82,10 @@ public final class LiveTest {
         heap.drop(1, 3);
         Due.answer("live of the tree", heap.live(), 7);
         heap.load(1, 0, 0, 1);
-        Due.answer("live of one branch", heap.live(), 3);
+        Due.answer("live of one branch alone", heap.live(), 3);
     }
 
-    private static void makePair(ThreadHeap heap, int t) {
+    private static void makeBranch(ThreadHeap heap, int t) {
         for (int r = 0; r < 3; r++) {
             heap.make(t, r, r);
         }
@@ -109,7 +109,7 @@ public final class LiveTest {
         Due.answer("live of a ring nobody reaches", heap.live(), 0);
     }
 
-    private static void comesBackByNoCall() {
+    private static void staysTheSameWhenAskedAgain() {
         ThreadHeap heap = Due.busyHeap();
         int[] before = Due.view(heap);
         for (int i = 0; i < 20; i++) {

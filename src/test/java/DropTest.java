@@ -4,13 +4,13 @@ public final class DropTest {
         emptiesThatRegisterAlone();
         leavesWhatOthersHold();
         dropsAnEmptyRegister();
-        Due.wrongArguments("drop", "tr", (heap, a) -> heap.drop(a[0], a[1]), ThreadHeap.BAD_ARG);
+        Calls.testsItsArguments("drop");
         Due.end();
     }
 
     private static void emptiesThatRegisterAlone() {
         for (int r = 0; r < 4; r++) {
-            ThreadHeap heap = Due.fullHeap();
+            ThreadHeap heap = Heaps.full();
             Due.answer("drop", heap.drop(0, r), 0);
             for (int other = 0; other < 4; other++) {
                 Due.answer("serial after a drop", heap.serial(0, other), other == r ? 0 : other + 1);
@@ -21,7 +21,7 @@ public final class DropTest {
     }
 
     private static void leavesWhatOthersHold() {
-        ThreadHeap heap = Due.busyHeap();
+        ThreadHeap heap = Heaps.busy();
         Due.answer("drop(1, 2)", heap.drop(1, 2), 0);
         Due.answer("the other thread's register", heap.serial(2, 3), 3);
         Due.answer("its number", heap.number(2, 3), 30);
@@ -30,10 +30,13 @@ public final class DropTest {
         Due.answer("live", heap.live(), 3);
     }
 
+    // "Answers 0.": also if the register was empty before.
     private static void dropsAnEmptyRegister() {
-        ThreadHeap heap = Due.busyHeap();
-        int[] before = Due.view(heap);
-        Due.answer("drop of an empty register", heap.drop(2, 2), 0);
-        Due.same("after drop of an empty register", Due.view(heap), before);
+        Due.changesNothing(Heaps::busy, "drop of an empty register", heap -> heap.drop(2, 2), 0);
+        Due.changesNothing(() -> new ThreadHeap(4), "drop in a new heap", heap -> heap.drop(0, 0), 0);
+        ThreadHeap heap = Heaps.full();
+        Due.answer("drop", heap.drop(0, 3), 0);
+        Due.answer("drop again", heap.drop(0, 3), 0);
+        Due.answer("live", heap.live(), 3);
     }
 }

@@ -2,13 +2,14 @@
 public final class GetTest {
     public static void main(String[] args) {
         getsWhatThatGlobalHolds();
-        emptiesTheRegisterForAnEmptyGlobal();
-        Due.wrongArguments("get", "trf", (heap, a) -> heap.get(a[0], a[1], a[2]), ThreadHeap.BAD_ARG);
+        becomesEmptyIfTheGlobalIs();
+        getsWhatItHoldsAlready();
+        Calls.testsItsArguments("get");
         Due.end();
     }
 
     private static void getsWhatThatGlobalHolds() {
-        ThreadHeap heap = Due.fullHeap();
+        ThreadHeap heap = Heaps.full();
         heap.put(0, 0, 1);
         heap.put(0, 1, 3);
         Due.answer("get(1, 2, 0)", heap.get(1, 2, 0), 0);
@@ -23,10 +24,23 @@ public final class GetTest {
         Due.answer("live", heap.live(), 3);
     }
 
-    private static void emptiesTheRegisterForAnEmptyGlobal() {
-        ThreadHeap heap = Due.busyHeap();
+    // "(or becomes empty)"
+    private static void becomesEmptyIfTheGlobalIs() {
+        ThreadHeap heap = Heaps.busy();
         Due.answer("get(0, 1, 1)", heap.get(0, 1, 1), 0);
         Due.answer("serial(0, 1)", heap.serial(0, 1), 0);
         Due.answer("serial(0, 0)", heap.serial(0, 0), 1);
+        heap.drop(1, 2);
+        Due.answer("get(2, 3, 1)", heap.get(2, 3, 1), 0);
+        Due.answer("live after the last holder became empty", heap.live(), 2);
+        for (int g = 0; g < 2; g++) {
+            int global = g;
+            Due.changesNothing(Heaps::full, "get(1, 0, " + g + ") of an empty global",
+                any -> any.get(1, 0, global), 0);
+        }
+    }
+
+    private static void getsWhatItHoldsAlready() {
+        Due.changesNothing(Heaps::busy, "get(0, 0, 0)", heap -> heap.get(0, 0, 0), 0);
     }
 }

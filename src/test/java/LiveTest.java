@@ -7,7 +7,10 @@ public final class LiveTest {
         countsALongChain();
         countsATree();
         losesARing();
-        staysTheSameWhenAskedAgain();
+        losesWhatOnlyALostObjectHolds();
+        goesFromNoneToTheRoom();
+        leavesOutRefusedMakes();
+        changesNothing();
         Due.end();
     }
 
@@ -96,7 +99,7 @@ public final class LiveTest {
     }
 
     private static void losesARing() {
-        ThreadHeap heap = Due.fullHeap();
+        ThreadHeap heap = Heaps.full();
         for (int r = 0; r < 4; r++) {
             heap.store(0, r, 0, (r + 1) % 4);
             heap.store(0, r, 1, r);
@@ -109,12 +112,44 @@ public final class LiveTest {
         Due.answer("live of a ring nobody reaches", heap.live(), 0);
     }
 
-    private static void staysTheSameWhenAskedAgain() {
-        ThreadHeap heap = Due.busyHeap();
-        int[] before = Due.view(heap);
+    private static void losesWhatOnlyALostObjectHolds() {
+        for (int f = 0; f < 2; f++) {
+            ThreadHeap heap = Heaps.full();
+            heap.store(0, 0, f, 1);
+            heap.store(0, 2, f, 3);
+            heap.drop(0, 1);
+            heap.drop(0, 2);
+            Due.answer("live with an object that a lost one holds as well", heap.live(), 3);
+            heap.drop(0, 0);
+            Due.answer("live after the holder of another one is lost", heap.live(), 1);
+        }
+    }
+
+    private static void goesFromNoneToTheRoom() {
+        for (int room = 4; room <= 16; room++) {
+            Due.answer("live of a new heap", new ThreadHeap(room).live(), 0);
+            for (int objects = 1; objects <= room; objects++) {
+                Due.answer("live", Heaps.withLive(room, objects).live(), objects);
+            }
+        }
+    }
+
+    private static void leavesOutRefusedMakes() {
+        ThreadHeap heap = Heaps.full();
+        heap.make(1, 0, 5);
+        Due.answer("live after FULL", heap.live(), 4);
+        ThreadHeap busy = Heaps.busy();
+        busy.make(3, 0, 5);
+        Due.answer("live after BAD_ARG", busy.live(), 3);
+    }
+
+    private static void changesNothing() {
+        Due.changesNothing(() -> new ThreadHeap(4), "live of a new heap", ThreadHeap::live, 0);
+        Due.changesNothing(Heaps::busy, "live of a busy heap", ThreadHeap::live, 3);
+        Due.changesNothing(Heaps::full, "live of a full heap", ThreadHeap::live, 4);
+        ThreadHeap heap = Heaps.busy();
         for (int i = 0; i < 20; i++) {
             Due.answer("live asked again", heap.live(), 3);
         }
-        Due.same("after asking for live", Due.view(heap), before);
     }
 }

@@ -4,6 +4,7 @@ public final class MadeTest {
         countsEveryObjectMade();
         leavesOutRefusedMakes();
         countsNothingElse();
+        changesNothing();
         Due.end();
     }
 
@@ -14,22 +15,28 @@ public final class MadeTest {
             heap.make(i % 3, 0, i);
         }
         Due.answer("made", heap.made(), 100);
+        heap.drop(0, 0);
+        heap.drop(1, 0);
+        heap.drop(2, 0);
+        Due.answer("made when none is live", heap.made(), 100);
     }
 
+    // "A refused call ... changes nothing": FULL and BAD_ARG make no object.
     private static void leavesOutRefusedMakes() {
-        ThreadHeap heap = Due.fullHeap();
+        ThreadHeap heap = Heaps.full();
         heap.make(0, 0, 5);
         heap.make(1, 0, 5);
+        Due.answer("made after FULL", heap.made(), 4);
         heap.make(3, 0, 5);
         heap.make(0, -1, 5);
-        Due.answer("made after refused makes", heap.made(), 4);
+        Due.answer("made after BAD_ARG", heap.made(), 4);
         heap.drop(0, 0);
         heap.make(0, 0, 5);
         Due.answer("made after one more", heap.made(), 5);
     }
 
     private static void countsNothingElse() {
-        ThreadHeap heap = Due.busyHeap();
+        ThreadHeap heap = Heaps.busy();
         heap.copy(0, 2, 0);
         heap.load(0, 3, 1, 1);
         heap.store(0, 0, 1, 0);
@@ -41,5 +48,10 @@ public final class MadeTest {
         heap.rest(63);
         heap.pause(0);
         Due.answer("made after the other calls", heap.made(), 4);
+    }
+
+    private static void changesNothing() {
+        Due.changesNothing(() -> new ThreadHeap(4), "made", ThreadHeap::made, 0);
+        Due.changesNothing(Heaps::busy, "made", ThreadHeap::made, 4);
     }
 }

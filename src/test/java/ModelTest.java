@@ -75,7 +75,7 @@ public final class ModelTest {
             }
             call(kind);
         }
-        Due.same("at the end of run " + run, Due.view(heap), view());
+        Due.same("at the end of run " + run, Heaps.view(heap), view());
     }
 
     private void call(int kind) {

@@ -1,27 +1,38 @@
+import java.util.function.Supplier;
+
 /** Promise 18: pause. */
 public final class PauseTest {
     public static void main(String[] args) {
-        for (int t = 0; t < 3; t++) {
-            answersZeroAndChangesNothing(t);
-        }
+        answersZeroAndChangesNothing();
+        refusesAWrongThread();
         leavesTheSameRoom();
         threadsGoOnAfterAPause();
-        Due.wrongArguments("pause", "t", (heap, a) -> heap.pause(a[0]), ThreadHeap.BAD_ARG);
+        Calls.testsItsArguments("pause");
         Due.end();
     }
 
-    private static void answersZeroAndChangesNothing(int t) {
-        ThreadHeap[] starts = {new ThreadHeap(4), Due.busyHeap(), Due.fullHeap()};
-        for (ThreadHeap heap : starts) {
-            int[] before = Due.view(heap);
+    // "otherwise 0"
+    private static void answersZeroAndChangesNothing() {
+        for (int t = 0; t < 3; t++) {
+            int thread = t;
+            for (Supplier<ThreadHeap> start : Heaps.STARTS) {
+                Due.changesNothing(start, "pause(" + t + ")", heap -> heap.pause(thread), 0);
+            }
+            ThreadHeap heap = Heaps.busy();
             Due.answer("pause(" + t + ")", heap.pause(t), 0);
             Due.answer("pause(" + t + ") again", heap.pause(t), 0);
-            Due.same("after pause(" + t + ")", Due.view(heap), before);
+        }
+    }
+
+    // "BAD_ARG if t is not 0 to 2"
+    private static void refusesAWrongThread() {
+        for (int t : new int[] {-1, 3, 4, Integer.MIN_VALUE, Integer.MAX_VALUE}) {
+            Due.changesNothing(Heaps::busy, "pause(" + t + ")", heap -> heap.pause(t), ThreadHeap.BAD_ARG);
         }
     }
 
     private static void leavesTheSameRoom() {
-        ThreadHeap heap = Due.busyHeap();
+        ThreadHeap heap = Heaps.busy();
         pauseAll(heap);
         Due.answer("make after pauses", heap.make(1, 0, 50), 5);
         pauseAll(heap);

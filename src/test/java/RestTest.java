@@ -1,33 +1,62 @@
-/** Promise 17: rest. It changes nothing that any call answers, whatever stands before and after it. */
-public final class RestTest {
-    private static final int[] STEPS = {
-        Integer.MIN_VALUE, -1, 0, 1, 2, 3, 4, 5, 15, 16, 17, 62, 63, 64, 1000, Integer.MAX_VALUE};
+import java.util.function.Supplier;
 
+/**
+ * Promise 17: rest. Its steps can't be seen, so what is tested is that no number of them changes
+ * what any call answers, whatever stands before and after.
+ */
+public final class RestTest {
     public static void main(String[] args) {
-        for (int k : STEPS) {
-            changesNothing(k);
-            leavesTheSameRoom(k);
-            keepsWhatMovesBetweenRests(k);
-            keepsWhatIsMadeBetweenRests(k);
-        }
+        doesNothingBelowOne();
+        changesNothingFromOneTo63();
+        takesMoreThan63();
         Due.end();
     }
 
-    private static void changesNothing(int k) {
-        ThreadHeap[] starts = {new ThreadHeap(4), Due.busyHeap(), Due.fullHeap()};
-        for (ThreadHeap heap : starts) {
-            int[] before = Due.view(heap);
-            heap.rest(k);
-            Due.same("after rest(" + k + ")", Due.view(heap), before);
-            heap.rest(k);
-            heap.rest(k);
-            Due.same("after rest(" + k + ") thrice", Due.view(heap), before);
+    // "none if k < 1"
+    private static void doesNothingBelowOne() {
+        for (int k : new int[] {0, -1, -63, Integer.MIN_VALUE + 1, Integer.MIN_VALUE}) {
+            changesNoAnswer(k);
         }
+    }
+
+    // "they change nothing that any call answers"
+    private static void changesNothingFromOneTo63() {
+        for (int k = 1; k <= 63; k++) {
+            changesNoAnswer(k);
+        }
+    }
+
+    // "at most 63 if k is greater"
+    private static void takesMoreThan63() {
+        for (int k : new int[] {64, 65, 127, 128, 1000, Integer.MAX_VALUE - 1, Integer.MAX_VALUE}) {
+            changesNoAnswer(k);
+        }
+    }
+
+    private static void changesNoAnswer(int k) {
+        changesNothing(k);
+        leavesTheSameRoom(k);
+        keepsWhatMovesBetweenRests(k);
+        keepsWhatIsMadeBetweenRests(k);
+    }
+
+    private static void changesNothing(int k) {
+        for (Supplier<ThreadHeap> start : Heaps.STARTS) {
+            Due.changesNothing(start, "rest(" + k + ")", heap -> rest(heap, k, 1), 0);
+            Due.changesNothing(start, "rest(" + k + ") thrice", heap -> rest(heap, k, 3), 0);
+        }
+    }
+
+    private static int rest(ThreadHeap heap, int k, int times) {
+        for (int i = 0; i < times; i++) {
+            heap.rest(k);
+        }
+        return 0;
     }
 
     private static void leavesTheSameRoom(int k) {
         String after = " after rest(" + k + ")";
-        ThreadHeap heap = Due.busyHeap();
+        ThreadHeap heap = Heaps.busy();
         heap.rest(k);
         Due.answer("make" + after, heap.make(1, 0, 50), 5);
         heap.rest(k);

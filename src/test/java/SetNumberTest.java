@@ -4,14 +4,13 @@ public final class SetNumberTest {
         givesTheObjectAnyNumber();
         isSeenThroughEveryHolder();
         refusesAnEmptyRegister();
-        Due.wrongArguments("setNumber", "trn", (heap, a) -> heap.setNumber(a[0], a[1], a[2]),
-            ThreadHeap.BAD_ARG);
+        Calls.testsItsArguments("setNumber");
         Due.end();
     }
 
     private static void givesTheObjectAnyNumber() {
-        ThreadHeap heap = Due.fullHeap();
-        for (int n : new int[] {0, 1, -1, -3, Integer.MAX_VALUE, Integer.MIN_VALUE}) {
+        ThreadHeap heap = Heaps.full();
+        for (int n : new int[] {0, 1, -1, -2, -3, 512, Integer.MAX_VALUE, Integer.MIN_VALUE}) {
             Due.answer("setNumber(0, 2, " + n + ")", heap.setNumber(0, 2, n), 0);
             Due.answer("number(0, 2)", heap.number(0, 2), n);
         }
@@ -21,15 +20,22 @@ public final class SetNumberTest {
     }
 
     private static void isSeenThroughEveryHolder() {
-        ThreadHeap heap = Due.busyHeap();
+        ThreadHeap heap = Heaps.busy();
         Due.answer("setNumber(1, 2, 31)", heap.setNumber(1, 2, 31), 0);
         Due.answer("number(2, 3)", heap.number(2, 3), 31);
         heap.load(2, 0, 3, 0);
         Due.answer("number(2, 0)", heap.number(2, 0), 31);
     }
 
+    // "EMPTY if the register is empty.": the number goes nowhere.
     private static void refusesAnEmptyRegister() {
-        Due.refused(Due.busyHeap(), "setNumber(0, 2, 5)", heap -> heap.setNumber(0, 2, 5), ThreadHeap.EMPTY);
-        Due.refused(new ThreadHeap(4), "setNumber(2, 3, 5)", heap -> heap.setNumber(2, 3, 5), ThreadHeap.EMPTY);
+        for (int n : new int[] {5, 0, Integer.MIN_VALUE, Integer.MAX_VALUE}) {
+            Due.changesNothing(Heaps::busy, "setNumber(0, 2, " + n + ")",
+                heap -> heap.setNumber(0, 2, n), ThreadHeap.EMPTY);
+            Due.changesNothing(Heaps::busy, "setNumber(2, 0, " + n + ") after a drop",
+                heap -> heap.setNumber(2, 0, n), ThreadHeap.EMPTY);
+            Due.changesNothing(() -> new ThreadHeap(4), "setNumber(2, 3, " + n + ")",
+                heap -> heap.setNumber(2, 3, n), ThreadHeap.EMPTY);
+        }
     }
 }

@@ -2,17 +2,16 @@
 public final class StoreTest {
     public static void main(String[] args) {
         fillsThatFieldAlone();
-        emptiesTheFieldForAnEmptyRegister();
+        becomesEmptyIfTheRegisterIs();
         storesAnObjectInItself();
         isSeenThroughEveryHolder();
         refusesAnEmptyRegister();
-        Due.wrongArguments("store", "trfr", (heap, a) -> heap.store(a[0], a[1], a[2], a[3]),
-            ThreadHeap.BAD_ARG);
+        Calls.testsItsArguments("store");
         Due.end();
     }
 
     private static void fillsThatFieldAlone() {
-        ThreadHeap heap = Due.fullHeap();
+        ThreadHeap heap = Heaps.full();
         Due.answer("store(0, 0, 1, 2)", heap.store(0, 0, 1, 2), 0);
         Due.answer("serialIn(0, 0, 1)", heap.serialIn(0, 0, 1), 3);
         Due.answer("serialIn(0, 0, 0)", heap.serialIn(0, 0, 0), 0);
@@ -25,14 +24,18 @@ public final class StoreTest {
         Due.answer("serialIn(0, 0, 0)", heap.serialIn(0, 0, 0), 2);
     }
 
-    private static void emptiesTheFieldForAnEmptyRegister() {
-        ThreadHeap heap = Due.busyHeap();
+    // "(it becomes empty if the register is)"
+    private static void becomesEmptyIfTheRegisterIs() {
+        ThreadHeap heap = Heaps.busy();
         Due.answer("store(0, 0, 0, 3)", heap.store(0, 0, 0, 3), 0);
         Due.answer("serialIn(0, 0, 0)", heap.serialIn(0, 0, 0), 0);
         heap.drop(0, 1);
-        Due.answer("live", heap.live(), 2);
+        Due.answer("live after the last holder became empty", heap.live(), 2);
+        Due.changesNothing(Heaps::busy, "store of an empty register into an empty field",
+            any -> any.store(0, 0, 1, 2), 0);
     }
 
+    // "each empty or holding an object (also itself)"
     private static void storesAnObjectInItself() {
         ThreadHeap heap = new ThreadHeap(4);
         heap.make(2, 1, 5);
@@ -46,15 +49,28 @@ public final class StoreTest {
     }
 
     private static void isSeenThroughEveryHolder() {
-        ThreadHeap heap = Due.busyHeap();
+        ThreadHeap heap = Heaps.busy();
         heap.make(1, 0, 50);
         Due.answer("store(1, 2, 1, 0)", heap.store(1, 2, 1, 0), 0);
         Due.answer("serialIn through the other thread", heap.serialIn(2, 3, 1), 5);
     }
 
+    // "EMPTY if register s is empty.": whether register r holds an object or not.
     private static void refusesAnEmptyRegister() {
-        Due.refused(Due.busyHeap(), "store(0, 2, 0, 0)", heap -> heap.store(0, 2, 0, 0), ThreadHeap.EMPTY);
-        Due.refused(Due.busyHeap(), "store(1, 0, 1, 1)", heap -> heap.store(1, 0, 1, 1), ThreadHeap.EMPTY);
-        Due.refused(new ThreadHeap(4), "store(2, 0, 0, 0)", heap -> heap.store(2, 0, 0, 0), ThreadHeap.EMPTY);
+        for (int f = 0; f < 2; f++) {
+            int field = f;
+            Due.changesNothing(Heaps::busy, "store(0, 2, " + f + ", 0)",
+                heap -> heap.store(0, 2, field, 0), ThreadHeap.EMPTY);
+            Due.changesNothing(Heaps::busy, "store(1, 0, " + f + ", 1)",
+                heap -> heap.store(1, 0, field, 1), ThreadHeap.EMPTY);
+            Due.changesNothing(Heaps::busy, "store(2, 1, " + f + ", 1)",
+                heap -> heap.store(2, 1, field, 1), ThreadHeap.EMPTY);
+            Due.changesNothing(() -> new ThreadHeap(4), "store(2, 0, " + f + ", 0)",
+                heap -> heap.store(2, 0, field, 0), ThreadHeap.EMPTY);
+        }
+        ThreadHeap heap = Heaps.busy();
+        heap.store(2, 0, 0, 3);
+        heap.make(2, 0, 50);
+        Due.answer("serialIn of what was made after the refused store", heap.serialIn(2, 0, 0), 0);
     }
 }

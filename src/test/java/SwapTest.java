@@ -2,8 +2,10 @@
 public final class SwapTest {
     public static void main(String[] args) {
         exchangesAnyTwoRegisters();
-        Due.wrongArguments("swap", "trtr", (heap, a) -> heap.swap(a[0], a[1], a[2], a[3]),
-            ThreadHeap.BAD_ARG);
+        exchangesAnObjectAndAnEmptyRegister();
+        exchangesTwoEmptyRegisters();
+        exchangesARegisterWithItself();
+        Calls.testsItsArguments("swap");
         Due.end();
     }
 
@@ -15,10 +17,9 @@ public final class SwapTest {
         }
     }
 
-    // The busy heap has full and empty registers, so all four kinds of pairs come.
     private static void exchanges(int first, int second) {
-        ThreadHeap heap = Due.busyHeap();
-        int[] want = Due.view(heap);
+        ThreadHeap heap = Heaps.busy();
+        int[] want = Heaps.view(heap);
         for (int i = 0; i < 4; i++) {
             int one = want[4 * first + i];
             want[4 * first + i] = want[4 * second + i];
@@ -26,6 +27,33 @@ public final class SwapTest {
         }
         String call = "swap(" + first / 4 + ", " + first % 4 + ", " + second / 4 + ", " + second % 4 + ")";
         Due.answer(call, heap.swap(first / 4, first % 4, second / 4, second % 4), 0);
-        Due.same("after " + call, Due.view(heap), want);
+        Due.same("after " + call, Heaps.view(heap), want);
+    }
+
+    // "(an empty one counts as well)"
+    private static void exchangesAnObjectAndAnEmptyRegister() {
+        ThreadHeap heap = Heaps.full();
+        Due.answer("swap(0, 1, 2, 3)", heap.swap(0, 1, 2, 3), 0);
+        Due.answer("serial(0, 1)", heap.serial(0, 1), 0);
+        Due.answer("serial(2, 3)", heap.serial(2, 3), 2);
+        Due.answer("swap(0, 1, 2, 3) again", heap.swap(0, 1, 2, 3), 0);
+        Due.answer("serial(0, 1)", heap.serial(0, 1), 2);
+        Due.answer("serial(2, 3)", heap.serial(2, 3), 0);
+        Due.answer("live", heap.live(), 4);
+    }
+
+    // "(an empty one counts as well)": and so do two.
+    private static void exchangesTwoEmptyRegisters() {
+        Due.changesNothing(Heaps::full, "swap(1, 0, 2, 3)", heap -> heap.swap(1, 0, 2, 3), 0);
+        Due.changesNothing(Heaps::busy, "swap(1, 0, 1, 1)", heap -> heap.swap(1, 0, 1, 1), 0);
+    }
+
+    private static void exchangesARegisterWithItself() {
+        for (int i = 0; i < 12; i++) {
+            int t = i / 4;
+            int r = i % 4;
+            Due.changesNothing(Heaps::busy, "swap of a register with itself",
+                heap -> heap.swap(t, r, t, r), 0);
+        }
     }
 }

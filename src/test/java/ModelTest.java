@@ -1,4 +1,5 @@
 import java.util.ArrayDeque;
+import java.util.Arrays;
 import java.util.Collections;
 import java.util.Deque;
 import java.util.IdentityHashMap;
@@ -12,12 +13,26 @@ public final class ModelTest {
     private static final int RUNS = 6000;
     private static final int CALLS = 460;
     private static final int KINDS = 17;
+    private static final int MAKE = 0;
+    private static final int STORE = 4;
+
+    private static final int[] fullAnswers = new int[17];
 
     public static void main(String[] args) {
         for (int run = 0; run < RUNS; run++) {
             new ModelTest(run).play();
         }
+        everyRoomWasFilled();
         Due.end();
+    }
+
+    // Runs that never fill the heap would show nothing of how room is made.
+    private static void everyRoomWasFilled() {
+        for (int room = 4; room <= 16; room++) {
+            if (fullAnswers[room] < 100) {
+                Due.wrong("the runs met FULL only " + fullAnswers[room] + " times with room for " + room);
+            }
+        }
     }
 
     private static final class Thing {
@@ -59,13 +74,8 @@ public final class ModelTest {
     }
 
     private void play() {
-        // How often each kind of call comes differs from run to run: some fill the heap, some empty it.
-        int[] weights = new int[KINDS];
-        int sum = 0;
-        for (int kind = 0; kind < KINDS; kind++) {
-            weights[kind] = 1 + draw(8);
-            sum += weights[kind];
-        }
+        int[] weights = drawWeights();
+        int sum = Arrays.stream(weights).sum();
         for (int i = 0; i < CALLS; i++) {
             int left = draw(sum);
             int kind = 0;
@@ -78,6 +88,17 @@ public final class ModelTest {
         Due.same("at the end of run " + run, Heaps.view(heap), view());
     }
 
+    // How often each kind of call comes differs from run to run. Every other run makes and stores
+    // so often that it fills a large heap too, which needs objects that only fields hold.
+    private int[] drawWeights() {
+        int often = run % 2 == 0 ? 1 : 6;
+        int[] weights = new int[KINDS];
+        for (int kind = 0; kind < KINDS; kind++) {
+            weights[kind] = (1 + draw(8)) * (kind == MAKE || kind == STORE ? often : 1);
+        }
+        return weights;
+    }
+
     private void call(int kind) {
         int t = drawArgument(3);
         int u = drawArgument(3);
@@ -86,11 +107,11 @@ public final class ModelTest {
         int f = drawArgument(2);
         int n = draw(1000) - 500;
         switch (kind) {
-            case 0 -> due("make", heap.make(t, r, n), make(t, r, n));
+            case MAKE -> due("make", heap.make(t, r, n), make(t, r, n));
             case 1 -> due("copy", heap.copy(t, r, s), copy(t, r, s));
             case 2 -> due("drop", heap.drop(t, r), drop(t, r));
             case 3 -> due("load", heap.load(t, r, s, f), load(t, r, s, f));
-            case 4 -> due("store", heap.store(t, s, f, r), store(t, s, f, r));
+            case STORE -> due("store", heap.store(t, s, f, r), store(t, s, f, r));
             case 5 -> due("put", heap.put(t, f, r), put(t, f, r));
             case 6 -> due("get", heap.get(t, r, f), get(t, r, f));
             case 7 -> due("swap", heap.swap(t, r, u, s), swap(t, r, u, s));
@@ -123,6 +144,7 @@ public final class ModelTest {
             return ThreadHeap.BAD_ARG;
         }
         if (live() >= room) {
+            fullAnswers[room]++;
             return ThreadHeap.FULL;
         }
         Thing thing = new Thing();

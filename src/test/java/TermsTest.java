@@ -22,6 +22,7 @@ public final class TermsTest {
         numberAnswersZeroInstead();
         neverThrows();
         refusedCallsChangeNothing();
+        askingChangesNothing();
         Due.end();
     }
 
@@ -308,6 +309,18 @@ public final class TermsTest {
             Due.changesNothing(start, "one call of each kind with BAD_ARG", TermsTest::allBadArg, 0);
         }
         Due.changesNothing(Heaps::chain, "all that answer EMPTY or FULL", TermsTest::allEmptyOrFull, 0);
+    }
+
+    // Promises 11 to 16 name an answer and no change.
+    private static void askingChangesNothing() {
+        for (Supplier<ThreadHeap> start : Heaps.STARTS) {
+            Due.changesNothing(start, "all that can be asked", TermsTest::askAll, 0);
+        }
+    }
+
+    private static int askAll(ThreadHeap heap) {
+        Heaps.view(heap);
+        return 0;
     }
 
     private static int allBadArg(ThreadHeap heap) {
